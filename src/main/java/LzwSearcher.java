@@ -100,7 +100,7 @@ public final class LzwSearcher {
     }
 
     public int position(int n) {
-        if (n < 0 || patternLength == 0) {
+        if (patternLength == 0) {
             return NONE;
         }
         int found = 0;

@@ -13,8 +13,11 @@ public final class AppendTest {
         LzwSearcher x = new LzwSearcher();
         for (int i = 0; i < 120; i++) {
             Due.same("append number " + i, x.append(text.charAt(i) - '0'), i + 1);
-            Due.same("the text after it", Searchers.textOf(x), text.substring(0, i + 1));
+            // Read from another object, as one object is used for 512 calls at most.
+            String start = text.substring(0, i + 1);
+            Due.same("the text after it", Searchers.textOf(Searchers.with(start, "")), start);
         }
+        Due.same("the text after all", Searchers.textOf(x), text);
     }
 
     /** All texts of seven letters, so that phrases of every small shape are met. */

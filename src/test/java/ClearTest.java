@@ -34,12 +34,14 @@ public final class ClearTest {
 
     private static void forgetsTheOldText() {
         String[] texts = {"0101010101", "1", "3210321032", Searchers.mixed(120), "0".repeat(120), "01"};
-        LzwSearcher x = new LzwSearcher();
-        for (String text : texts) {
-            x.clear();
-            Due.same("first append after clear", x.append(text.charAt(0) - '0'), 1);
-            Searchers.addText(x, text.substring(1));
-            Due.same("the text after clear", Searchers.textOf(x), text);
+        for (String old : texts) {
+            for (String text : texts) {
+                LzwSearcher x = Searchers.with(old, "");
+                x.clear();
+                Due.same("first append after clear", x.append(text.charAt(0) - '0'), 1);
+                Searchers.addText(x, text.substring(1));
+                Due.same("the text after clear", Searchers.textOf(x), text);
+            }
         }
     }
 }

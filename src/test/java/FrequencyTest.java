@@ -12,8 +12,8 @@ public final class FrequencyTest {
     }
 
     private static void everyPrefix(String text) {
-        LzwSearcher x = Searchers.with(text, "01");
         for (int letter = 0; letter < 4; letter++) {
+            LzwSearcher x = Searchers.with(text, "01");
             int found = 0;
             for (int n = 0; n <= text.length(); n++) {
                 Due.same(text + ": frequency(" + letter + ", " + n + ")", x.frequency(letter, n), found);

@@ -3,7 +3,7 @@ public final class QueriesChangeNothingTest {
     private static final int[] ARGUMENTS = {0, 1, 3, 5, -1, 4, 119, 120, 121, Integer.MAX_VALUE, Integer.MIN_VALUE};
 
     public static void main(String[] args) {
-        String[] texts = {"", "0", "0101010", "0012010233", Searchers.mixed(119)};
+        String[] texts = {"", "0", "0101010", "0012010233", Searchers.mixed(55)};
         String[] patterns = {"", "0", "01", "0123012301"};
         for (String text : texts) {
             for (String pattern : patterns) {

@@ -26,7 +26,8 @@ final class Searchers {
 
     static String textOf(LzwSearcher x) {
         StringBuilder text = new StringBuilder();
-        for (int i = 0; i < x.length(); i++) {
+        int length = x.length();
+        for (int i = 0; i < length; i++) {
             text.append(x.letterAt(i));
         }
         return text.toString();
@@ -34,7 +35,8 @@ final class Searchers {
 
     static String positionsOf(LzwSearcher x) {
         StringBuilder positions = new StringBuilder();
-        for (int n = 0; n < x.count(); n++) {
+        int count = x.count();
+        for (int n = 0; n < count; n++) {
             positions.append(x.position(n)).append(' ');
         }
         return positions.toString().trim();
