@@ -1,8 +1,23 @@
-/** Compares answers with what is due, and ends a test with exit code 1 if one differed. */
+/** Runs tests, compares answers with what is due, and ends with exit code 1 if one differed. */
 final class Due {
+    // A broken class may give thousands of wrong answers, and the first few tell enough.
+    private static final int TOLD_PER_TEST = 5;
+
     private static int wrong = 0;
+    private static int wrongInTest = 0;
 
     private Due() {
+    }
+
+    /** One test, named by the words of the document that it holds the class to. */
+    static void test(String words, Runnable test) {
+        wrongInTest = 0;
+        try {
+            test.run();
+        } catch (RuntimeException thrown) {
+            tell("a call", thrown.toString(), "no exception");
+        }
+        System.out.println((wrongInTest == 0 ? "  holds: " : "  BROKEN: ") + words);
     }
 
     static void same(String call, long got, long want) {
@@ -26,6 +41,9 @@ final class Due {
 
     private static void tell(String call, String got, String want) {
         wrong++;
-        System.out.println(call + " answered " + got + ", due is " + want);
+        wrongInTest++;
+        if (wrongInTest <= TOLD_PER_TEST) {
+            System.out.println(call + " answered " + got + ", due is " + want);
+        }
     }
 }

@@ -7,15 +7,19 @@ public final class LongRunsTest {
     private static long state = 20261115L;
 
     public static void main(String[] args) {
+        Due.test("Promises 1 to 13 together, over runs of 512 calls", LongRunsTest::allRuns);
+        Due.end();
+    }
+
+    private static void allRuns() {
         for (int run = 0; run < RUNS; run++) {
             oneRun(run);
         }
-        Due.end();
     }
 
     private static void oneRun(int run) {
         LzwSearcher x = new LzwSearcher();
-        PlainModel model = new PlainModel();
+        PlainModel model = new PlainModel("", "");
         // Few different letters make patterns that occur often.
         int letters = 1 + run % 4;
         for (int call = 0; call < CALLS; call += 2) {

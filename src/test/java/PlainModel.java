@@ -1,7 +1,12 @@
 /** The document's words over plain strings, to compare long runs of calls with. */
 final class PlainModel {
-    private String text = "";
-    private String pattern = "";
+    private String text;
+    private String pattern;
+
+    PlainModel(String text, String pattern) {
+        this.text = text;
+        this.pattern = pattern;
+    }
 
     int append(int letter) {
         if (letter < 0 || letter > 3) {

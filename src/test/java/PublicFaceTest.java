@@ -18,12 +18,16 @@ public final class PublicFaceTest {
             "public int frequency(int,int)", "public int overlap()", "public int countWithin(int)"));
 
     public static void main(String[] args) {
-        constants();
-        members();
-        fieldTypes();
+        Due.test("The public face: its constants", PublicFaceTest::constants);
+        Due.test("The public face: its members, and no others that can be seen", PublicFaceTest::members);
+        Due.test("The public face: public final class LzwSearcher", PublicFaceTest::oneFinalClass);
+        Due.test("LANGUAGE.md, rule 2: the types of its fields", PublicFaceTest::fieldTypes);
+        Due.end();
+    }
+
+    private static void oneFinalClass() {
         Due.same("the class's modifiers", Modifier.toString(LzwSearcher.class.getModifiers()), "public final");
         Due.same("the nested classes", LzwSearcher.class.getDeclaredClasses().length, 0);
-        Due.end();
     }
 
     private static void constants() {

@@ -1,37 +1,52 @@
-/** Terms: length, letterAt, count, position, frequency, overlap and countWithin change no answer. */
+/** Terms: The calls below change nothing that any call answers. */
 public final class QueriesChangeNothingTest {
-    private static final int[] ARGUMENTS = {0, 1, 3, 5, -1, 4, 119, 120, 121, Integer.MAX_VALUE, Integer.MIN_VALUE};
+    private static final int[] NUMBERS = {0, 1, 3, 4, 60, 119, 120, 121, -1, Integer.MAX_VALUE, Integer.MIN_VALUE};
 
     public static void main(String[] args) {
-        String[] texts = {"", "0", "0101010", "0012010233", Searchers.mixed(55)};
-        String[] patterns = {"", "0", "01", "0123012301"};
-        for (String text : texts) {
-            for (String pattern : patterns) {
-                askedAndUnasked(text, pattern);
-            }
-        }
+        Due.test("change nothing that any call answers: length", QueriesChangeNothingTest::length);
+        Due.test("change nothing that any call answers: letterAt", QueriesChangeNothingTest::letterAt);
+        Due.test("change nothing that any call answers: count", QueriesChangeNothingTest::count);
+        Due.test("change nothing that any call answers: position", QueriesChangeNothingTest::position);
+        Due.test("change nothing that any call answers: frequency", QueriesChangeNothingTest::frequency);
+        Due.test("change nothing that any call answers: overlap", QueriesChangeNothingTest::overlap);
+        Due.test("change nothing that any call answers: countWithin", QueriesChangeNothingTest::countWithin);
         Due.end();
     }
 
-    private static void askedAndUnasked(String text, String pattern) {
-        LzwSearcher asked = Searchers.with(text, pattern);
-        String before = everyAnswer(asked);
-        Due.same("asked twice, text " + text + ", pattern " + pattern, everyAnswer(asked), before);
-        LzwSearcher unasked = Searchers.with(text, pattern);
-        Due.same("append(1) after questions", asked.append(1), unasked.append(1));
-        Due.same("pattern(1) after questions", asked.pattern(1), unasked.pattern(1));
-        Due.same("repeat(0, 9) after questions", asked.repeat(0, 9), unasked.repeat(0, 9));
-        Due.same("later answers, text " + text + ", pattern " + pattern, everyAnswer(asked), everyAnswer(unasked));
+    private static void length() {
+        State.keptBy("length()", LzwSearcher::length);
     }
 
-    private static String everyAnswer(LzwSearcher x) {
-        StringBuilder answers = new StringBuilder();
-        answers.append(x.length()).append(' ').append(x.count()).append(' ').append(x.overlap());
-        for (int n : ARGUMENTS) {
-            answers.append(' ').append(x.letterAt(n)).append(' ').append(x.position(n));
-            answers.append(' ').append(x.countWithin(n));
-            answers.append(' ').append(x.frequency(0, n)).append(' ').append(x.frequency(n, 3));
+    private static void letterAt() {
+        for (int n : NUMBERS) {
+            State.keptBy("letterAt(" + n + ")", x -> x.letterAt(n));
         }
-        return answers.append(' ').append(Searchers.textOf(x)).toString();
+    }
+
+    private static void count() {
+        State.keptBy("count()", LzwSearcher::count);
+    }
+
+    private static void position() {
+        for (int n : NUMBERS) {
+            State.keptBy("position(" + n + ")", x -> x.position(n));
+        }
+    }
+
+    private static void frequency() {
+        for (int n : NUMBERS) {
+            State.keptBy("frequency(0, " + n + ")", x -> x.frequency(0, n));
+            State.keptBy("frequency(" + n + ", 3)", x -> x.frequency(n, 3));
+        }
+    }
+
+    private static void overlap() {
+        State.keptBy("overlap()", LzwSearcher::overlap);
+    }
+
+    private static void countWithin() {
+        for (int n : NUMBERS) {
+            State.keptBy("countWithin(" + n + ")", x -> x.countWithin(n));
+        }
     }
 }

@@ -1,6 +1,15 @@
-/** Makes objects from strings of digits and reads them back through the public face. */
+/** Makes objects from strings of digits, reads them back, and names the edges that tests try. */
 final class Searchers {
-    static final int[] NOT_LETTERS = {-1, 4, 5, -4, 256, 1 << 30, Integer.MAX_VALUE, Integer.MIN_VALUE};
+    // Some would be letters if only their lowest bits were looked at; so with the numbers below.
+    static final int[] NOT_LETTERS = {-1, 4, -2, 5, -4, -253, 256, 259, 65536, 1 << 30,
+        Integer.MAX_VALUE, Integer.MIN_VALUE, Integer.MIN_VALUE + 3};
+    static final int[] BELOW_ZERO = {-1, -2, -120, -121, -128, -251, -256, -65536, -Integer.MAX_VALUE,
+        Integer.MIN_VALUE};
+    static final int[] ABOVE_120 = {121, 122, 127, 128, 255, 256, 257, 32768, 65536, 65537, 1 << 30,
+        Integer.MAX_VALUE - 120, Integer.MAX_VALUE - 119, Integer.MAX_VALUE - 1, Integer.MAX_VALUE};
+    // The empty and the full ones are among them, and the last that isn't full.
+    static final String[] TEXTS = {"", "0", "3120", "0101010", mixed(119), mixed(120), "2".repeat(120)};
+    static final String[] PATTERNS = {"", "2", "01", "012301230", "0123012301"};
 
     private Searchers() {
     }
@@ -31,15 +40,6 @@ final class Searchers {
             text.append(x.letterAt(i));
         }
         return text.toString();
-    }
-
-    static String positionsOf(LzwSearcher x) {
-        StringBuilder positions = new StringBuilder();
-        int count = x.count();
-        for (int n = 0; n < count; n++) {
-            positions.append(x.position(n)).append(' ');
-        }
-        return positions.toString().trim();
     }
 
     /** Letters without an evident period: every pair and most triples turn up among 120 of them. */
