@@ -59,7 +59,10 @@ public final class LongRunsTest {
                 int number = below(4) == 0 ? n : below(model.count() + 1);
                 same(run, "position(" + number + ")", x.position(number), model.position(number));
             }
-            case 4 -> same(run, "frequency(" + letter + ", " + n + ")", x.frequency(letter, n), model.frequency(letter, n));
+            case 4 -> {
+                String call = "frequency(" + letter + ", " + n + ")";
+                same(run, call, x.frequency(letter, n), model.frequency(letter, n));
+            }
             case 5 -> same(run, "overlap()", x.overlap(), model.overlap());
             default -> same(run, "countWithin(" + n + ")", x.countWithin(n), model.countWithin(n));
         }
