@@ -27,6 +27,8 @@ public final class PublicFaceTest {
 
     private static void oneFinalClass() {
         Due.same("the class's modifiers", Modifier.toString(LzwSearcher.class.getModifiers()), "public final");
+        Due.same("what the class extends", LzwSearcher.class.getSuperclass().getName(), "java.lang.Object");
+        Due.same("how many interfaces it implements", LzwSearcher.class.getInterfaces().length, 0);
         Due.same("the nested classes", LzwSearcher.class.getDeclaredClasses().length, 0);
     }
 

@@ -3,6 +3,8 @@ public final class TermsTest {
     public static void main(String[] args) {
         Due.test("The text grows at its end", TermsTest::growsAtItsEnd);
         Due.test("is cut back only as a whole", TermsTest::cutBackOnlyAsAWhole);
+        Due.test("How it is compressed can't be seen: a text made by repeat", TermsTest::madeByRepeat);
+        Due.test("How it is compressed can't be seen: a text made after another", TermsTest::madeAfterAnother);
         Due.test("A PATTERN is a list of at most ten letters.", TermsTest::atMostTenLetters);
         Due.test("OCCURS at index i: the first index and the last", TermsTest::firstAndLastIndex);
         Due.test("all of them in the text", TermsTest::allInTheText);
@@ -38,6 +40,66 @@ public final class TermsTest {
             x.clear();
             Due.same("cleared: length()", x.length(), 0);
             Due.same("cleared: letterAt(0)", x.letterAt(0), LzwSearcher.NONE);
+        }
+    }
+
+    private static void madeByRepeat() {
+        for (String text : Searchers.TEXTS) {
+            for (String pattern : Searchers.PATTERNS) {
+                LzwSearcher x = new LzwSearcher();
+                addByRepeat(x, text);
+                Searchers.addPattern(x, pattern);
+                State.due("made by repeat", x, text, pattern);
+            }
+        }
+    }
+
+    /** Repeats the longest stretch that has what comes next, and appends where there is none. */
+    private static void addByRepeat(LzwSearcher x, String text) {
+        int at = 0;
+        while (at < text.length()) {
+            int from = longestBefore(text, at);
+            int n = from < at ? common(text, from, at) : 0;
+            if (n > 0) {
+                x.repeat(from, n);
+            } else {
+                x.append(text.charAt(at) - '0');
+            }
+            at += Math.max(n, 1);
+        }
+    }
+
+    /** The index before this one from which on most letters are those from this one on. */
+    private static int longestBefore(String text, int at) {
+        int best = 0;
+        for (int from = 1; from < at; from++) {
+            if (common(text, from, at) > common(text, best, at)) {
+                best = from;
+            }
+        }
+        return best;
+    }
+
+    /** How many letters from the one index on are those from the other on. */
+    private static int common(String text, int first, int second) {
+        int n = 0;
+        while (second + n < text.length() && text.charAt(first + n) == text.charAt(second + n)) {
+            n++;
+        }
+        return n;
+    }
+
+    private static void madeAfterAnother() {
+        for (String old : new String[] {"0", "3120", "01".repeat(15), "2".repeat(30)}) {
+            for (String text : Searchers.TEXTS) {
+                for (String pattern : Searchers.PATTERNS) {
+                    LzwSearcher x = Searchers.with(old, "");
+                    x.clear();
+                    Searchers.addText(x, text);
+                    Searchers.addPattern(x, pattern);
+                    State.due("made after " + old, x, text, pattern);
+                }
+            }
         }
     }
 

@@ -9,6 +9,7 @@ public final class WhatItIsTest {
         Due.test("at most 512 calls: a text that stays full", WhatItIsTest::staysFull);
         Due.test("at most 512 calls: a pattern that is filled over and over", WhatItIsTest::patternOverAndOver);
         Due.test("at most 512 calls: questions", WhatItIsTest::questions);
+        Due.test("what later calls answer is free (but LANGUAGE.md, rule 7: none throws)", WhatItIsTest::laterCalls);
         Due.end();
     }
 
@@ -88,6 +89,28 @@ public final class WhatItIsTest {
         for (int call = 6; call < CALLS; call += 2) {
             Due.same("call " + call + ": count()", x.count(), 4);
             Due.same("the call after: position(2)", x.position(2), 3);
+        }
+    }
+
+    private static void laterCalls() {
+        LzwSearcher x = new LzwSearcher();
+        for (int round = 0; round < CALLS; round++) {
+            x.append(round % 5);
+            x.repeat(round % 7, round % 11);
+            x.pattern(round / 3 % 5);
+            x.length();
+            x.letterAt(round % 122);
+            x.count();
+            x.position(round % 6);
+            x.frequency(round % 5, round % 122);
+            x.overlap();
+            x.countWithin(round % 122);
+            if (round % 90 == 89) {
+                x.clear();
+            }
+            if (round % 50 == 49) {
+                x.clearPattern();
+            }
         }
     }
 }
